@@ -278,6 +278,7 @@ public final class PromiseTest {
         RowLegaliser left = row(10, cell(3, 0, 1), cell(3, 0, 5));
         due(9, "leftmost(0) at the row's start", left.leftmost(0), 0);
         due(9, "leftmost(1) at the row's start", left.leftmost(1), 3);
+        due(9, "leftmost(0) of one that wishes 1", row(10, cell(3, 1, 1)).leftmost(0), 1);
         RowLegaliser right = row(10, cell(3, 60, 5), cell(3, 60, 1));
         due(9, "leftmost(0) at the row's end", right.leftmost(0), 4);
         due(9, "leftmost(1) at the row's end", right.leftmost(1), 7);
@@ -356,6 +357,9 @@ public final class PromiseTest {
             row(30, cell(1, 25, 5), cell(2, 1, 1), cell(2, 3, 1), cell(2, 5, 1)).content(), 3);
         due(12, "content() must skip one in the middle",
             row(30, cell(2, 1, 1), cell(2, 20, 1), cell(2, 3, 1), cell(2, 5, 1)).content(), 3);
+        // The last cell has a long chain and then a short one before it, and must join the long one.
+        due(12, "content() must not join the nearest",
+            row(30, cell(2, 5, 1), cell(2, 7, 1), cell(2, 3, 1), cell(2, 9, 1)).content(), 3);
         due(12, "content() with the last outside",
             row(10, cell(2, 1, 1), cell(2, 3, 1), cell(2, 9, 1)).content(), 2);
         // What is left out takes no room, so more cells than fit are no hindrance.
