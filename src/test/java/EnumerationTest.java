@@ -71,11 +71,18 @@ public final class EnumerationTest {
             return;
         }
         rows++;
+        compare(made());
+        for (int i = 0; i < count; i++) {
+            compareEdges(made(), i);
+        }
+    }
+
+    private static RowLegaliser made() {
         RowLegaliser x = new RowLegaliser(length);
         for (int i = 0; i < count; i++) {
             x.append(width[i], wish[i], weight[i]);
         }
-        compare(x);
+        return x;
     }
 
     /** One object through many changes, so that nothing of an earlier state is left over in a later answer. */
@@ -143,6 +150,7 @@ public final class EnumerationTest {
         return most;
     }
 
+    /** At most 34 calls: an object that is changed and compared twelve times stays below 512 calls. */
     private static void compare(RowLegaliser x) {
         for (int n = 0; n <= count; n++) {
             tryAll(n);
@@ -154,13 +162,21 @@ public final class EnumerationTest {
         for (int i = 0; i < count; i++) {
             room -= width[i];
             due("leftmost(" + i + ")", x.leftmost(i), least < 0 ? RowLegaliser.NONE : best[i]);
-            for (int edge = -2; edge <= 62; edge++) {
-                int at = edge < 0 || edge > 60 ? -1 : leastAt[i][edge];
-                due("costAt(" + i + ", " + edge + ")", x.costAt(i, edge), at < 0 ? RowLegaliser.NONE : at);
-            }
+            compareEdge(x, i, number(0, length - 1));
         }
         due("room()", x.room(), room);
         due("content()", x.content(), mostContent());
+    }
+
+    private static void compareEdges(RowLegaliser x, int cell) {
+        for (int edge = -2; edge <= 62; edge++) {
+            compareEdge(x, cell, edge);
+        }
+    }
+
+    private static void compareEdge(RowLegaliser x, int cell, int edge) {
+        int at = edge < 0 || edge > 60 ? -1 : leastAt[cell][edge];
+        due("costAt(" + cell + ", " + edge + ")", x.costAt(cell, edge), at < 0 ? RowLegaliser.NONE : at);
     }
 
     private static void tryAll(int n) {
